@@ -1,0 +1,77 @@
+import java.nio.charset.StandardCharsets;
+
+/** What the tests share: answers that are due, and texts fed to a clock. */
+final class Due {
+    /** Three people, two meetings: a is TOLD in minute 1, b in 4, c in 5; b and a meet in 20, c comes far too early. */
+    static final String THREE = "man a 2 5 0 0;man b 3 5 -10 1;man c 1 30 20 -2;ring a 0;ring b 0;ring c 1;"
+            + "meet a b 20;meet a c 15;";
+
+    private static int wrong = 0;
+    private static int asked = 0;
+
+    private Due() {
+    }
+
+    static void is(String call, long got, long due) {
+        asked++;
+        if (got != due) {
+            wrong++;
+            System.out.println(call + " answered " + got + ", due is " + due);
+        }
+    }
+
+    static void is(String call, boolean got, boolean due) {
+        is(call, got ? 1 : 0, due ? 1 : 0);
+    }
+
+    static void end() {
+        System.out.println(wrong == 0 ? asked + " answers are as due" : wrong + " answers are not as due");
+        if (wrong != 0) {
+            System.exit(1);
+        }
+    }
+
+    /** Feeds a text (blanks fill the last twenty bytes) and answers what text() answers to its length. */
+    static int tell(SpeakClock clock, String text) {
+        byte[] bytes = text.getBytes(StandardCharsets.ISO_8859_1);
+        for (int at = 0; at < bytes.length; at += 20) {
+            int[] five = new int[5];
+            for (int i = 0; i < 20; i++) {
+                five[i / 4] = five[i / 4] << 8 | (at + i < bytes.length ? bytes[at + i] & 255 : 32);
+            }
+            clock.feed(five[0], five[1], five[2], five[3], five[4]);
+        }
+        return clock.text(bytes.length);
+    }
+
+    static SpeakClock told(String text) {
+        SpeakClock clock = new SpeakClock();
+        if (tell(clock, text) < 0) {
+            is("text of \"" + text + "\", fault " + clock.fault(0) + " at " + clock.fault(1), -1, 0);
+        }
+        return clock;
+    }
+
+    /** The text has this FAULT at this place. */
+    static void faulty(String text, int fault, int place) {
+        SpeakClock clock = new SpeakClock();
+        is("text \"" + text + "\"", tell(clock, text), -1);
+        is("fault(0) of \"" + text + "\"", clock.fault(0), fault);
+        is("fault(1) of \"" + text + "\"", clock.fault(1), place);
+    }
+
+    static void fine(String text, int lines) {
+        SpeakClock clock = new SpeakClock();
+        is("text \"" + text + "\"", tell(clock, text), lines);
+        is("fault(0) of \"" + text + "\"", clock.fault(0), 0);
+        is("fault(1) of \"" + text + "\"", clock.fault(1), -1);
+    }
+
+    static String times(String part, int n) {
+        StringBuilder s = new StringBuilder();
+        for (int i = 0; i < n; i++) {
+            s.append(part);
+        }
+        return s.toString();
+    }
+}
