@@ -121,6 +121,18 @@ public final class AskTest {
         c = Due.told("man a 5 0 0 0;man b 3 0 0 0;ring b 0;");
         Due.is("by ring() ahead of b", c.bestRing(0, 9, 1), 5);
         Due.is("at once", c.bestRing(0, 9, 0), 0);
+        c = Due.told("man a 1 0 0 0;man b 9 0 0 0;man c 9 0 0 0;man d 9 0 0 0;man e 9 0 0 0;man f 9 0 0 0;"
+                + "law talk (talks=9)*18+1+(talks=1)*3;crowd 49;");
+        for (int man = 1; man < 6; man++) {
+            c.ring(man);
+        }
+        Due.is("told in 99 minutes", c.bestRing(0, 0, 1), 99);
+        SpeakClock d = Due.told("man a 1 0 0 0;man b 9 0 0 0;man c 9 0 0 0;man d 9 0 0 0;man e 9 0 0 0;man f 9 0 0 0;"
+                + "law talk (talks=9)*18+1+(talks=1)*4;");
+        for (int man = 1; man < 6; man++) {
+            d.ring(man);
+        }
+        Due.is("not told in 99 minutes", d.bestRing(0, 0, 1), -2);
     }
 
     private static void near() {
@@ -177,6 +189,7 @@ public final class AskTest {
         Due.is("agree(29)", c.agree(29), 5);
         Due.is("agree(2)", c.agree(2), 6);
         Due.is("agree(1)", c.agree(1), -2);
+        Due.is("agree(60)", c.agree(60), 0);
         Due.is("agree(61)", c.agree(61), -1);
         Due.is("agree(-1)", c.agree(-1), -1);
         c = Due.told("man a 1 0 0 9;man b 1 0 0 0;ring b 199;");
@@ -230,6 +243,8 @@ public final class AskTest {
         Due.is("latest()", c.latest(), 1);
         c.set(2, -1);
         Due.is("latest() when c is slower", c.latest(), 2);
+        c.set(0, -1);
+        Due.is("latest(), the first of several", c.latest(), 0);
         Due.is("latest() of nobody", new SpeakClock().latest(), -1);
     }
 
@@ -279,6 +294,19 @@ public final class AskTest {
         c = Due.told("man a 9 0 0 0;crowd 50;");
         c.ring(0);
         Due.is("never quiet", c.quiet(), -2);
+        c = Due.told("man a 9 0 0 0;man b 9 0 0 0;man c 9 0 0 0;man d 9 0 0 0;man e 9 0 0 0;man f 9 0 0 0;law talk 20;"
+                + "ring a 100;ring b 100;ring c 100;ring d 100;");
+        for (int man = 0; man < 6; man++) {
+            c.ring(man);
+        }
+        // six calls of twenty minutes, then those of a, b, c and d once more
+        Due.is("quiet() in 200", c.quiet(), 200);
+        c = Due.told("man a 9 0 0 0;man b 9 0 0 0;man c 9 0 0 0;man d 9 0 0 0;man e 9 0 0 0;man f 9 0 0 0;law talk 20;"
+                + "ring a 100;ring b 100;ring c 100;ring d 100;ring a 199;ring e 199;");
+        for (int man = 0; man < 6; man++) {
+            c.ring(man);
+        }
+        Due.is("quiet() not in 200", c.quiet(), -2);
     }
 
     private static void firstMissed() {
@@ -299,6 +327,8 @@ public final class AskTest {
         Due.is("firstMissed(1) of two", c.firstMissed(1), 0);
         c = Due.told("man a 1 0 0 0;man b 1 0 5 0;meet a b 200;");
         Due.is("firstMissed(0) in 201", c.firstMissed(0), -2);
+        c.go(1);
+        Due.is("firstMissed(0) in 200", c.firstMissed(0), 200);
     }
 
     private static void longest() {

@@ -51,6 +51,13 @@ public final class SeenTest {
         Due.is("a second strike", c.strike(0), 4);
         Due.is("strike that", c.strike(4), 5);
         Due.is("the first one holds", c.rates(0), ALL_RATES);
+        c = Due.told(Due.THREE);
+        c.see(1, 0, 400, true);
+        c.see(1, 0, 400, true);
+        Due.tell(c, Due.THREE);
+        c.see(1, 0, 400, true);
+        c.strike(0);
+        Due.is("a strike is no sight", c.rates(0), ALL_RATES);
     }
 
     private static void known() {
@@ -105,6 +112,10 @@ public final class SeenTest {
         c = Due.told("man a 1 0 0 9;law drift rate*2;");
         c.see(10, 0, 16, true);
         Due.is("rate of a law", c.rates(0), 0b1110000000);
+        c = Due.told("man a 1 0 0 0;ring a 9;crowd 49;");
+        c.see(9, 0, 9, true);
+        c.see(10, 0, 11, true);
+        Due.is("without strangers below 50", c.rates(0), 0b1111100000);
     }
 
     private static void ratesOfAllPeople() {
@@ -170,6 +181,7 @@ public final class SeenTest {
         Due.is("tried(0, 0, 20)", c.tried(0, 0, 20), 0);
         Due.is("tried(0, 0, 21)", c.tried(0, 0, 21), 1);
         Due.is("tried(4, 0, 21): a waits 30", c.tried(4, 0, 21), 2);
+        Due.is("tried(4, 0, 0)", c.tried(4, 0, 0), 0);
         Due.is("tried(5, 0, 21)", c.tried(5, 0, 21), -1);
         Due.is("tried(-1, 0, 21)", c.tried(-1, 0, 21), -1);
         Due.is("tried(0, 0, 201)", c.tried(0, 0, 201), -1);
@@ -203,5 +215,9 @@ public final class SeenTest {
         c = Due.told("man a 1 0 0 0;man b 1 0 0 0;meet a b 30;law drift waits-30;");
         Due.is("all wait 30, as the laws say", c.tried(4, 0, 31), 1);
         Due.is("who wait 0 drift behind it", c.ahead(31, 0, 0), 0);
+        c = Due.told("man a 1 0 0 0;man b 1 0 30 0;meet a b 60;");
+        Due.is("all wait 30", c.tried(4, 0, 200), 1);
+        c.set(1, 31);
+        Due.is("and no more", c.tried(4, 0, 200), 0);
     }
 }

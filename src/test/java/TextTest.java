@@ -102,6 +102,27 @@ public final class TextTest {
         Due.is("no law", c.law(0, 0), NO_VALUE);
         c.see(5, 0, 9, true);
         Due.is("all known", c.count(12), 1);
+        nothingIsLeftOfEarlierTexts();
+    }
+
+    private static void nothingIsLeftOfEarlierTexts() {
+        SpeakClock c = Due.told("man a 2 5 0 0;crowd 30;seed 5;cold 0 9;law talk 7;law late 7;law drift 7;");
+        Due.tell(c, "man b 1 1 1 1;law talk 1/");
+        Due.tell(c, "man a 2 5 0 0;crowd 30;");
+        SpeakClock d = Due.told("man a 2 5 0 0;crowd 30;");
+        Due.tell(c, "man a 2 5 0 0;crowd 30;");
+        for (int law = 0; law < 3; law++) {
+            Due.is("no law " + law, c.law(law, 0), NO_VALUE);
+        }
+        c.ring(0);
+        d.ring(0);
+        c.go(200);
+        d.go(200);
+        for (int what = 0; what < 14; what++) {
+            Due.is("count(" + what + ") of a later text", c.count(what), d.count(what));
+        }
+        Due.is("off of a later text", c.man(0, 2), d.man(0, 2));
+        Due.is("nobody is named b", c.named(2 << 25), -1);
     }
 
     private static void faultOfLines() {
@@ -164,6 +185,8 @@ public final class TextTest {
         Due.faulty(Due.times("cold 1 1;", 3) + "cold 9 1;", 2, 27);
         Due.fine("law talk ((((((((1))))))))+((1));", 1);
         Due.faulty("law talk ((((((((1+(", 2, 19);
+        Due.fine("law talk ((((((((" + Due.times("not ", 63) + "1))))))));", 1);
+        Due.faulty("law talk ((((((((" + Due.times("not ", 64) + "1", 2, 17 + 256);
         String knots63 = Due.times("1+", 31) + "1";
         Due.fine("law talk " + knots63 + ";law late 1;", 2);
         Due.faulty("law talk " + knots63 + ";law late 1+1;", 2, 9 + 63 + 11);
@@ -319,6 +342,16 @@ public final class TextTest {
         Due.is("2>2", worth("2>2"), 0);
         Due.is("3>2", worth("3>2"), 1);
         Due.is("(1<2)+5", worth("(1<2)+5"), 6);
+        Due.is("not 5", worth("not 5"), 0);
+        Due.is("2+not in brackets", worth("2+(not 5)"), 2);
+        Due.is("1 and 1", worth("1 and 1"), 1);
+        Due.is("0 and 1", worth("0 and 1"), 0);
+        Due.is("0 or 0", worth("0 or 0"), 0);
+        Due.is("0 or 1", worth("0 or 1"), 1);
+        Due.is("1 or 0", worth("1 or 0"), 1);
+        Due.is("3<=2", worth("3<=2"), 0);
+        Due.is("2<>3", worth("2<>3"), 1);
+        Due.is("2=3", worth("2=3"), 0);
         Due.is("9999", worth("9999"), 9999);
         Due.is("knots", Due.told("law talk not (off+1)<=2 and 3 or 4;").count(3), 10);
     }
