@@ -1110,7 +1110,14 @@ public final class SpeakClock {
         private int takesSign(Laws laws) {
             int kind = tokens.kind;
             if (kind == CLOSE) {
-                return closes(laws);
+                if (open <= 0) {
+                    return CANT_STAND;
+                }
+                unpile(laws, 1);
+                // the '(' itself is no step
+                piled--;
+                open--;
+                return 0;
             }
             int level = levelOf(kind);
             if (level == 0 || level == LEVEL_OF_NOT) {
@@ -1125,16 +1132,6 @@ public final class SpeakClock {
             unpile(laws, level);
             wantsValue = true;
             return pilesKnot(laws, kind);
-        }
-
-        private int closes(Laws laws) {
-            if (open <= 0) {
-                return CANT_STAND;
-            }
-            unpile(laws, 1);
-            piled--;
-            open--;
-            return 0;
         }
 
         private int pilesKnot(Laws laws, int kind) {
