@@ -511,11 +511,9 @@ public final class SpeakClock {
         if (n < 0 || n > FAR) {
             return NONE;
         }
-        if (n == 0) {
-            return now.inRow;
-        }
         startTrial();
-        int most = 0;
+        // now is behind 0 MINUTES, so its QUEUE is one of those looked at
+        int most = now.inRow;
         for (int i = 0; i < n; i++) {
             way.passMinute(trial);
             most = Math.max(most, trial.inRow);

@@ -343,7 +343,10 @@ public final class AskTest {
         c.ring(1);
         c.ring(2);
         Due.is("longest(0) now", c.longest(0), 3);
-        Due.is("longest(1): behind that minute", c.longest(1), 2);
+        Due.is("longest(1): now is looked at, too", c.longest(1), 3);
+        Due.is("longest(200): now is looked at, too", c.longest(200), 3);
+        c.go(1);
+        Due.is("longest(1): no longer what was ahead of now", c.longest(1), 2);
     }
 
     private static void queue() {

@@ -916,7 +916,7 @@ final class ModelClock {
         if (n < 0 || n > 200) {
             return NONE;
         }
-        int most = n == 0 ? now.row.size() : 0;
+        int most = now.row.size();
         World w = now.copy();
         for (int i = 0; i < n; i++) {
             minute(w, new Other());
