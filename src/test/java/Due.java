@@ -8,16 +8,40 @@ final class Due {
 
     private static int wrong = 0;
     private static int asked = 0;
+    private static int sentences = 0;
+    private static String sentence = "";
 
     private Due() {
+    }
+
+    /** What is asked from here on is due by this sentence of the document. */
+    static void by(String words) {
+        sentence = words + ": ";
+        sentences++;
     }
 
     static void is(String call, long got, long due) {
         asked++;
         if (got != due) {
             wrong++;
-            System.out.println(call + " answered " + got + ", due is " + due);
+            System.out.println(sentence + call + " answered " + got + ", due is " + due);
         }
+    }
+
+    /** Of texts of many lines only the first one that isn't as due is told. */
+    static void is(String call, String got, String due) {
+        asked++;
+        if (got.equals(due)) {
+            return;
+        }
+        wrong++;
+        String[] lines = got.split("\n");
+        String[] dueLines = due.split("\n");
+        int at = 0;
+        while (at < lines.length - 1 && at < dueLines.length - 1 && lines[at].equals(dueLines[at])) {
+            at++;
+        }
+        System.out.println(sentence + call + " answered \"" + lines[at] + "\", due is \"" + dueLines[at] + "\"");
     }
 
     static void is(String call, boolean got, boolean due) {
@@ -25,7 +49,8 @@ final class Due {
     }
 
     static void end() {
-        System.out.println(wrong == 0 ? asked + " answers are as due" : wrong + " answers are not as due");
+        String asDue = asked + " answers are as due" + (sentences > 0 ? ", by " + sentences + " sentences" : "");
+        System.out.println(wrong == 0 ? asDue : wrong + " answers are not as due");
         if (wrong != 0) {
             System.exit(1);
         }
