@@ -9,6 +9,7 @@ public final class AskEdgesTest {
     public static void main(String[] args) {
         asItGoes();
         oneBehindAnother();
+        withoutNumbers();
         ahead();
         aheadIsRefused();
         delay();
@@ -113,15 +114,20 @@ public final class AskEdgesTest {
                 }
             }
         }
+    }
+
+    /** With numbers some of these seeds would bring a stranger in minute 0, and some none. */
+    private static void withoutNumbers() {
+        Due.by("==== 2: AS IT GOES: without numbers");
         for (int seed = 0; seed < 20; seed++) {
-            SpeakClock c = Due.told("man a 1 0 0 0;crowd 49;seed " + seed + ";");
-            c.go(0);
-            Due.is("bestRing behind go(0), seed " + seed, c.bestRing(0, 0, 1), 1);
-            c = Due.told("man a 1 0 0 0;crowd 49;seed " + seed + ";");
-            c.go(0);
-            Due.is("delay behind go(0), seed " + seed, c.delay(0), 1);
-            c.go(0);
-            Due.is("longest behind go(0), seed " + seed, c.longest(200), 0);
+            String text = "man a 1 0 0 0;man b 1 0 1 0;ring a 1;meet a b 3;law talk 2-(minute>=1);seed " + seed + ";";
+            SpeakClock none = Due.told(text + "crowd 49;");
+            SpeakClock each = Due.told(text + "crowd 50;");
+            Due.is("the best ring without strangers", none.bestRing(0, 1, 0) * 10 + none.bestRing(0, 1, 1), 11);
+            Due.is("the best ring with strangers", each.bestRing(0, 1, 0) * 10 + each.bestRing(0, 1, 1), 2);
+            Due.is("queue without strangers", none.longest(200), 0);
+            Due.is("queue with strangers", each.ahead(10, 3, 0), 5);
+            Due.is("quiet without strangers", none.quiet(), 0);
         }
     }
 
@@ -467,7 +473,7 @@ public final class AskEdgesTest {
     }
 
     private static void certain() {
-        Due.by("==== 3: CERTAIN: MEETINGS that are KEPT in 200 MINUTES as it goes, or are");
+        Due.by("Promise 23: CERTAIN (bits): MEETINGS that are KEPT in 200 MINUTES as it goes, or are");
         SpeakClock c = Due.told(AB + "meet a b 199;meet a b 200;meet a b 0;meet a b 300;meet b a 1;meet b a 198;");
         Due.is("all but those at 200 and 300", c.certain(), 1 + 4 + 16 + 32);
         c.go(1);
