@@ -58,6 +58,11 @@ final class Due {
 
     /** Feeds a text (blanks fill the last twenty bytes) and answers what text() answers to its length. */
     static int tell(SpeakClock clock, String text) {
+        return clock.text(feed(clock, text));
+    }
+
+    /** Feeds a text: how long it is. */
+    static int feed(SpeakClock clock, String text) {
         byte[] bytes = text.getBytes(StandardCharsets.ISO_8859_1);
         for (int at = 0; at < bytes.length; at += 20) {
             int[] five = new int[5];
@@ -66,7 +71,7 @@ final class Due {
             }
             clock.feed(five[0], five[1], five[2], five[3], five[4]);
         }
-        return clock.text(bytes.length);
+        return bytes.length;
     }
 
     static SpeakClock told(String text) {

@@ -24,6 +24,9 @@ public final class TextEdgesTest {
         knots();
         oneKnotEach();
         lengthIfMoreMustCome();
+        cutInsideAToken();
+        tokensOfLines();
+        tokensOfLaws();
         firstAlongTheText();
         leastOfOnePlace();
         toldAlready();
@@ -317,6 +320,95 @@ public final class TextEdgesTest {
         unended("", "law", "drift", "(", "(", "1", ")", "-", "(", "2", ")", ")", "/", "3", ";");
     }
 
+    /** The TEXT ends where the TAPE goes on with what would belong to its last TOKEN. */
+    private static void cutInsideAToken() {
+        Due.by("Promise 3: the TAPE's first n bytes are the TEXT");
+        String[] cut = {"se|ed 1;", "seed| 1;", "seed 1|2;", "man a|bc 1 1 1 1;", "man abcdef|g 1 1 1 1;", "law talk 1<|=2;",
+            "law talk 1>|=2;", "law talk 1<|>2;", "law talk t|alks;", "cold 1 1|0;", "law talk 1-|2;", "seed 1|;"};
+        int[] places = {0, 4, 6, 5, 10, 11, 11, 11, 9, 8, 11, 6};
+        for (int i = 0; i < cut.length; i++) {
+            int n = cut[i].indexOf('|');
+            SpeakClock c = new SpeakClock();
+            Due.feed(c, cut[i].replace("|", ""));
+            Due.is("text(" + n + ") of " + cut[i], c.text(n), -1);
+            Due.is("fault(0) of " + cut[i], c.fault(0), 1);
+            Due.is("fault(1) of " + cut[i], c.fault(1), places[i]);
+        }
+        Due.by("Promise 2 and 3: 700 bytes, and the last one of them is the TEXT's");
+        String[] last = {"seed 12", "seed", "law talk 1<", "law talk 1>", "man abcdef", "law talk talks", "seed 1 "};
+        for (String end : last) {
+            Due.faulty(Due.times(" ", 700 - end.length()) + end, 1, 700);
+        }
+        Due.fine(Due.times(" ", 693) + "seed 1;", 1);
+        Due.faulty(Due.times(" ", 699) + "a", 1, 699);
+        Due.faulty(Due.times(" ", 699) + "<", 1, 699);
+        Due.faulty(Due.times(" ", 699) + "7", 1, 699);
+    }
+
+    /** Behind this none but the TOKENS named may come; those that may have another FAULT there or none. */
+    private static void only(String ahead, String named) {
+        String all = String.join(" ", LANGUAGE) + " a zzz 7 ; ( ) + - * / < <= = <> >= >";
+        for (String token : all.split(" ")) {
+            SpeakClock c = new SpeakClock();
+            Due.tell(c, ahead + " " + token);
+            boolean cantStand = c.fault(0) == 1 && c.fault(1) == ahead.length() + 1;
+            boolean isNamed = (" " + named + " ").contains(" " + token + " ");
+            Due.is("\"" + token + "\" behind \"" + ahead + "\" can't stand there", cantStand, !isNamed);
+        }
+    }
+
+    private static void tokensOfLines() {
+        Due.by("Terms: 1: a TOKEN that can't stand there, in each LINE");
+        only(AB, "man ring meet cold crowd seed law");
+        only("", "man ring meet cold crowd seed law");
+        only(AB + "man", "a zzz");
+        only("man zz", "7");
+        only("man zz 7", "7");
+        only("man zz 7 7", "7 -");
+        only("man zz 7 7 -", "7");
+        only("man zz 7 7 7", "7 -");
+        only("man zz 7 7 7 -", "7");
+        only("man zz 7 7 7 7", ";");
+        only(AB + "ring", "a zzz");
+        only(AB + "ring a", "7");
+        only(AB + "ring a 7", ";");
+        only(AB + "meet", "a zzz");
+        only(AB + "meet b", "a zzz");
+        only(AB + "meet b a", "7");
+        only(AB + "meet b a 7", ";");
+        only("cold", "7");
+        only("cold 7", "7");
+        only("cold 7 7", ";");
+        only("crowd", "7");
+        only("crowd 7", ";");
+        only("seed", "7");
+        only("seed 7", ";");
+    }
+
+    private static void tokensOfLaws() {
+        Due.by("Terms: 1: a TOKEN that can't stand there, in each place of E");
+        only("law", "talk late drift");
+        String factor = "7 talks waits off rate queue told minute (";
+        for (String law : new String[] {"law talk", "law late", "law drift", "law talk not", "law talk (", "law talk 1 and",
+            "law talk 1 or", "law talk 1<2 and", "law talk (not"}) {
+            only(law, factor + " not");
+        }
+        for (String sign : new String[] {"+", "-", "*", "/", "<", "<=", "=", "<>", ">=", ">"}) {
+            only("law talk 1" + sign, factor);
+            only("law talk not (1" + sign, factor);
+        }
+        String joined = "+ - * / and or";
+        String compared = joined + " < <= = <> >= >";
+        for (String e : new String[] {"1", "off", "(1)", "not 1", "(1<2)", "1<2 and 3", "1<2 or 3", "1<2 or not 3", "1*2+3"}) {
+            only("law talk " + e, compared + " ;");
+            only("law talk (" + e, compared + " )");
+        }
+        for (String e : new String[] {"1<2", "1+1=2*2", "not 1>2", "1 and 2<=3", "(1<2)<3", "1<2 or 3<>4"}) {
+            only("law talk " + e, joined + " ;");
+            only("law talk (" + e, joined + " )");
+        }
+    }
+
     private static void firstAlongTheText() {
         Due.by("Terms: FAULTS, the first along the text");
         Due.faulty("crowd 101;seed 100000;", 2, 6);
@@ -496,14 +588,7 @@ public final class TextEdgesTest {
 
     private static SpeakClock taped(String text) {
         SpeakClock c = new SpeakClock();
-        Due.tell(c, text);
-        c.text(0);
-        byte[] bytes = text.getBytes(java.nio.charset.StandardCharsets.ISO_8859_1);
-        int[] five = new int[5];
-        for (int i = 0; i < 20; i++) {
-            five[i / 4] = five[i / 4] << 8 | bytes[i];
-        }
-        c.feed(five[0], five[1], five[2], five[3], five[4]);
+        Due.feed(c, text);
         return c;
     }
 
@@ -731,6 +816,7 @@ public final class TextEdgesTest {
         Due.is("by itself", worth("(" + most + ")*(" + most + ")"), Long.MIN_VALUE);
         // 2 to the 32, times itself: nothing would be left in 64 bits
         Due.is("2 to the 64", worth("(4096*4096*256)*(4096*4096*256)"), Long.MIN_VALUE);
+        Due.is("2 to the 64, the one much less", worth("(4096*4096*64)*(4096*4096*1024)"), Long.MIN_VALUE);
         Due.is("2 to the 64 and more", worth("(4096*4096*256)*(4096*4096*256+1)"), Long.MIN_VALUE);
         Due.is("-2 to the 64", worth("(4096*4096*256)*(0-4096*4096*256)"), Long.MIN_VALUE);
         Due.is("both below 0", worth("(0-" + most + ")*(0-" + most + ")"), Long.MIN_VALUE);
