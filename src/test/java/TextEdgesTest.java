@@ -644,23 +644,26 @@ public final class TextEdgesTest {
     /** What earlier texts told, with and without a FAULT, is nowhere in a later one. */
     private static void textBehindTexts() {
         Due.by("Promise 3: the first n bytes are the TEXT");
-        String later = "man x 3 5 1 1;man y 2 5 -9 0;ring x 1;ring y 1;meet x y 20;";
+        String plain = "man x 3 5 1 1;man y 2 5 -9 0;ring x 1;ring y 1;meet x y 20;";
         String[] earlier = {"cold 0 200;", "crowd 100;", "crowd 30;seed 5;", "law talk 9;", "law late 9;", "law drift 9;",
             "man z 1 1 1 1;ring z 0;", AB + "meet a b 1;", "cold 0 200;crowd 100;law talk 9;law late 9;law drift 9;x",
             "man x 1 1 1 1;", "seed 9;seed", "crowd 60;crowd", "man a 1 1 1 1;man b", ""};
-        SpeakClock fresh = Due.told(later);
-        String due = Look.at(fresh);
-        String dueThen = Look.andThen(fresh);
         for (String text : earlier) {
-            for (int times = 1; times <= 3; times++) {
-                SpeakClock c = new SpeakClock();
-                for (int i = 0; i < times; i++) {
-                    Due.tell(c, text);
-                }
-                Due.tell(c, later);
-                Due.is("told behind " + times + " times \"" + text + "\"", Look.at(c), due);
-                Due.is("then, behind " + times + " times \"" + text + "\"", Look.andThen(c), dueThen);
+            toldBehind(text, plain);
+            toldBehind(text, plain + "cold 3 9;crowd 70;seed 8;law talk 4;law late 0-3;law drift 2;");
+        }
+    }
+
+    private static void toldBehind(String earlier, String later) {
+        for (int times = 1; times <= 3; times++) {
+            SpeakClock fresh = Due.told(later);
+            SpeakClock c = new SpeakClock();
+            for (int i = 0; i < times; i++) {
+                Due.tell(c, earlier);
             }
+            Due.tell(c, later);
+            Due.is("told behind " + times + " times \"" + earlier + "\"", Look.at(c), Look.at(fresh));
+            Due.is("then, behind " + times + " times \"" + earlier + "\"", Look.andThen(c), Look.andThen(fresh));
         }
     }
 
